@@ -452,7 +452,9 @@ public final class HomeByAnotherWay {
     }
 
     private int leastRing(Settings town, int need, int heavy, int what) {
-        look(town, need, heavy);
+        ways.lay(town, streets, texts);
+        if ((need & ~ways.reached()) != 0) return -1;
+        search.seek(ways, need, heavy);
         int ring = search.least(need);
         if (ring < 0) return -1;
         switch (what) {
@@ -874,26 +876,20 @@ public final class HomeByAnotherWay {
             if (t < 0 || t >= many || key < WALK || key > MAY) return 0;
             int top = 0;
             for (int i = key == WALK ? 0 : ends[t][key - 1]; i < ends[t][key]; i++) {
-                top = run(code[t][i], top);
+                int token = -code[t][i];
+                int operands = operands(token), first = top - operands;
+                if (first < 0 || first >= STACK) return 0;
+                if (token <= 0) stack[first] = -token;
+                else if (operands == 0) stack[first] = named[token - Tape.BASE];
+                else stack[first] = applied(token, stack[first], stack[top - 1]);
+                top = first + 1;
             }
             return stack[0];
         }
 
-        private int run(int step, int top) {
-            int token = -step;
-            if (token <= 0) return push(step, top);
-            if (token >= Tape.BASE && token <= Tape.LAST_NAME) return push(named[token - Tape.BASE], top);
-            boolean alone = token == Tape.NOT || token == Tape.MINUS_OF;
-            int first = alone ? top - 1 : top - 2;
-            if (first < 0 || top > STACK) return 0;
-            stack[first] = applied(token, stack[first], stack[top - 1]);
-            return first + 1;
-        }
-
-        private int push(int v, int top) {
-            if (top < 0 || top >= STACK) return top;
-            stack[top] = v;
-            return top + 1;
+        private static int operands(int token) {
+            if (token <= 0 || token >= Tape.BASE && token <= Tape.LAST_NAME) return 0;
+            return token == Tape.NOT || token == Tape.MINUS_OF ? 1 : 2;
         }
 
         private static int applied(int token, int a, int b) {
@@ -921,9 +917,9 @@ public final class HomeByAnotherWay {
         private int been, once;
         private final int[] one = new int[STREETS_AND_LANE], other = new int[STREETS_AND_LANE];
         private final int[] spends = new int[STREETS_AND_LANE];
-        private final int[] minutes = new int[4 * STREETS_AND_LANE];
-        /** Streets (bits) by load and corner: room for every four bits of a state's corner. */
+        /** By load and corner, with room for all that four bits of a state's corner can be. */
         private final int[] may = new int[32];
+        private final int[] minutes = new int[32 * STREETS_AND_LANE];
 
         static int at(int state) {
             return state & 15;
@@ -947,23 +943,20 @@ public final class HomeByAnotherWay {
                 one[s] = streets.one[s];
                 other[s] = streets.other[s];
                 spends[s] = streets.spentBy(s, many);
-                for (int side = 0; side < 2; side++) {
-                    int from = side == 0 ? one[s] : other[s];
-                    texts.name(streets.base[s], streets.more[s], town.hour, from, across(s, from), s);
-                    for (int load = 0; load < 2; load++) price(s, from, load, town, streets, texts);
-                }
+                price(s, one[s], town, streets, texts);
+                price(s, other[s], town, streets, texts);
             }
         }
 
-        private void price(int s, int from, int load, Settings town, Streets streets, Texts texts) {
-            boolean lets = streets.lets(s, from, load, town.hour);
-            if (lets && texts.value(town.law, MAY) != 0) may[load << 4 | from & 15] |= 1 << s;
-            int told = texts.value(town.law, load == 0 ? WALK : CARRY);
-            minutes[slot(s, from, load)] = streets.lasts(s, from, told, town.hour);
-        }
-
-        private int slot(int s, int from, int load) {
-            return 4 * s + (from == one[s] ? 0 : 2) + load;
+        private void price(int s, int from, Settings town, Streets streets, Texts texts) {
+            texts.name(streets.base[s], streets.more[s], town.hour, from, across(s, from), s);
+            boolean lawful = texts.value(town.law, MAY) != 0;
+            for (int load = 0; load < 2; load++) {
+                int place = load << 4 | from & 15;
+                if (lawful && streets.lets(s, from, load, town.hour)) may[place] |= 1 << s;
+                int told = texts.value(town.law, load == 0 ? WALK : CARRY);
+                minutes[s << 5 | place] = streets.lasts(s, from, told, town.hour);
+            }
         }
 
         private int across(int s, int from) {
@@ -975,7 +968,7 @@ public final class HomeByAnotherWay {
         }
 
         int minutes(int s, int from, int load) {
-            return minutes[slot(s, from, load)];
+            return minutes[s << 5 | load << 4 | from & 15];
         }
 
         int start() {
@@ -983,7 +976,7 @@ public final class HomeByAnotherWay {
         }
 
         int after(int state, int s) {
-            int to = across(s, at(state));
+            int to = one[s] + other[s] - (state & 15);
             return state & ~15 | to | 1 << to + 4 | spends[s] << 4 + CORNERS;
         }
 
@@ -1058,7 +1051,7 @@ public final class HomeByAnotherWay {
      */
     private static final class Search {
         private static final int SETS = 1 << STREETS_AND_LANE;
-        private static final long UNSEEN = Long.MAX_VALUE;
+        private static final int UNSEEN = 0;
         /** A walk's key: its minutes, and below them its streets, four bits each, in order. */
         private static final int MINUTES_AT = 52, FIRST_AT = 48;
         private static final int NO_PAIR = 1 << 20;
@@ -1068,10 +1061,6 @@ public final class HomeByAnotherWay {
         private final int[] queue = new int[SETS];
         private final int[] fewest = new int[1 << STREETS];
         private int tail, home;
-
-        Search() {
-            Arrays.fill(key, UNSEEN);
-        }
 
         /** All walks; one that comes home having passed all that it needs ends there. */
         void seek(Ways ways, int need, int heavy) {
@@ -1085,7 +1074,7 @@ public final class HomeByAnotherWay {
         }
 
         private void forget(int from) {
-            for (int i = from; i < tail; i++) key[queue[i]] = UNSEEN;
+            for (int i = from; i < tail; i++) state[queue[i]] = UNSEEN;
             tail = from;
         }
 
@@ -1106,11 +1095,13 @@ public final class HomeByAnotherWay {
             if (to <= set || to >= SETS) return;
             long minutes = ways.minutes(s, Ways.at(state[set]), load);
             long its = key[set] + (minutes << MINUTES_AT) + ((long) s << FIRST_AT - 4 * Integer.bitCount(set));
-            if (key[to] == UNSEEN && tail < SETS) {
+            if (state[to] != UNSEEN) {
+                key[to] = Math.min(key[to], its);
+            } else if (tail < SETS) {
+                key[to] = its;
                 state[to] = ways.after(state[set], s);
                 queue[tail++] = to;
             }
-            key[to] = Math.min(key[to], its);
         }
 
         private boolean isRing(int set, int need) {
@@ -1190,7 +1181,7 @@ public final class HomeByAnotherWay {
         /** For each set of streets the fewest minutes of a ring that goes these alone. */
         private void fillFewest(int need, int sets) {
             for (int set = 0; set < sets; set++) {
-                boolean ring = key[set] != UNSEEN && isRing(set, need);
+                boolean ring = state[set] != UNSEEN && isRing(set, need);
                 fewest[set] = ring ? minutes(set) : NO_PAIR;
             }
             for (int bit = 1; bit < sets; bit <<= 1) {
