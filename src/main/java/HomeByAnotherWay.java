@@ -1,5 +1,9 @@
 import java.util.Arrays;
 
+/**
+ * A town of corners and streets, and the rings by which one who has gone out comes home by
+ * streets not gone yet. What each call does is told in the document, promise by promise.
+ */
 public final class HomeByAnotherWay {
     public static final int NONE = -1, BAD = -2, STATE = -3, FULL = -4;
     public static final long NO = -4611686018427387904L;
@@ -516,7 +520,7 @@ public final class HomeByAnotherWay {
         return 0;
     }
 
-    /** Of a number from 0 on, and one from 1 to 50. */
+    /** The greatest; of a number from 0 on, and one from 1 to 50. */
     private static int commonDivisor(int above, int below) {
         for (int d = below; d > 1; d--) {
             if (above % d == 0 && below % d == 0) return d;
@@ -1093,8 +1097,9 @@ public final class HomeByAnotherWay {
         private void step(Ways ways, int set, int s, int load) {
             int to = set | 1 << s;
             if (to <= set || to >= SETS) return;
-            long minutes = ways.minutes(s, Ways.at(state[set]), load);
-            long its = key[set] + (minutes << MINUTES_AT) + ((long) s << FIRST_AT - 4 * Integer.bitCount(set));
+            long minutes = ways.minutes(s, Ways.at(state[set]), load), street = s;
+            int place = FIRST_AT - 4 * Integer.bitCount(set);
+            long its = key[set] + (minutes << MINUTES_AT) + (street << place);
             if (state[to] != UNSEEN) {
                 key[to] = Math.min(key[to], its);
             } else if (tail < SETS) {

@@ -263,6 +263,12 @@ public final class PromisesTest {
         due(write(x, good + "1 not 1;"), at - 2);
         due(write(x, good + "1 +"), at - 3);
         due(write(x, good + "1 or "), at - 5);
+        for (char odd = 0; odd < 256; odd++) {
+            boolean stands = odd == ';' || odd == 32 || odd == 10 || odd >= '0' && odd <= '9' || "+-*<=".indexOf(odd) >= 0;
+            due(write(x, good + "1" + odd), stands ? odd == ';' ? 2 : at - 2 : at - 1);
+            if (odd == ';') x = new HomeByAnotherWay();
+            if (odd == ';') due(write(x, good + "1;"), 1);
+        }
         // Five may be open, of any of the three; what has ended is open no more.
         due(write(x, good + "(((((1)))));"), 2);
         due(write(x, good + "((((((1))))));"), at - 5);
@@ -412,6 +418,16 @@ public final class PromisesTest {
         long[] spent = new long[8];
         for (int s = 0; s < 8; s++) spent[s] = x.told(s, 5);
         dueRow(spent, 1, 6, 6, 24, 24, 32, 64, 128);
+        x.close();
+        x.close();
+        x.close();
+        x.close();
+        due(x.told(1, 5), 6);
+        due(x.told(3, 5), 8);
+        for (int i = 0; i < 8; i++) x.street(3, 1, 1, 4);
+        due(x.told(11, 5), 4095 ^ 1 ^ 8);
+        x = new HomeByAnotherWay();
+        for (int s = 0; s < 8; s++) x.street(0, 1, 1, 4);
         dueAll(-5, x.told(-1, 0), x.told(8, 0), x.told(8, 9), x.told(MAX, -1), x.told(MIN, 0), x.told(12, 0));
         dueAll(-7, x.told(0, -1), x.told(0, 6), x.told(7, MAX), x.told(7, MIN));
     }
@@ -787,6 +803,10 @@ public final class PromisesTest {
         x.street(1, 20, 1, 0);
         due(x.house(7, 1), 6);
         due(x.house(7, 0), 0);
+        x = new HomeByAnotherWay();
+        x.street(2, 1, 1, 9);
+        x.street(2, 1, 1, 9);
+        due(x.house(3, 1), 3);
     }
 
     // ---- lanes
@@ -856,6 +876,8 @@ public final class PromisesTest {
         due(town(1, 2, 3, 4).newly(), 2);
         due(town(1, 2, 3, 4, 5).newly(), 3);
         due(town(1, 23).newly(), 2);
+        due(town(12, 21).newly(), 0);
+        due(town(12, 23).newly(), 1);
         due(town(1, 12, 20, 13).newly(), 1);
         HomeByAnotherWay x = town(1, 12, 20);
         x.gone(7);
@@ -940,6 +962,10 @@ public final class PromisesTest {
         x.set(1, 9);
         x.force(1);
         due(x.laws(2), 1 | 32);
+        x = new HomeByAnotherWay();
+        x.street(2, 1, 1, 0);
+        x.street(2, 1, 1, 0);
+        due(x.laws(1), 1);
         dueAll(-5, x.laws(0), x.laws(-1), x.laws(9), x.laws(MAX));
     }
 
