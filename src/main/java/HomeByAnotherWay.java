@@ -496,6 +496,8 @@ public final class HomeByAnotherWay {
         for (int i = 0; i < sheet.size; i++) {
             int s = sheet.numbers[i];
             if (!isStreet(s) || (ways.next(stroll.state, 0) >> s & 1) == 0) return i;
+            // What comes home to end there may have nothing told behind it, not even what is none.
+            if (i < sheet.size - 1 && ways.ends(stroll.state, s)) return i;
             stroll.go(ways, s);
         }
         return -1;
@@ -993,6 +995,11 @@ public final class HomeByAnotherWay {
                 if (to != home && (passed >> to & 1) != 0) next &= ~(1 << s);
             }
             return next;
+        }
+
+        /** Whether a walk that goes a street next ends by it, whatever it is for. */
+        boolean ends(int state, int s) {
+            return once != 0 && across(s, at(state)) == home;
         }
 
         /** The corners to which a way goes from home, home too; none is spent on it. */

@@ -581,24 +581,28 @@ final class PlainTown {
     int judge(int s) {
         if (!in(s, 0, 3)) return BAD;
         if (sheets[s] == null) return -11;
-        Walk walk = new Walk();
-        for (int i = 0; i < sheets[s].length; i++) {
-            if (!walk.may(sheets[s][i], false)) return i;
-            walk.go(sheets[s][i], false);
-        }
-        return -1;
+        int went = follow(sheets[s]).streets.size();
+        return went == sheets[s].length ? -1 : went;
     }
 
     int walk(int s, int what) {
         if (!in(s, 0, 3)) return BAD;
         if (sheets[s] == null) return -11;
         if (!in(what, 0, 1)) return -7;
-        Walk walk = new Walk();
-        for (int street : sheets[s]) {
-            if (!walk.may(street, false)) break;
-            walk.go(street, false);
-        }
+        Walk walk = follow(sheets[s]);
         return what == 0 ? walk.minutes : walk.at();
+    }
+
+    /** With ONCE 1 the last that is told, and no other, may come home. */
+    Walk follow(int[] told) {
+        Walk walk = new Walk();
+        for (int i = 0; i < told.length; i++) {
+            if (!walk.may(told[i], false)) break;
+            boolean homeAhead = once == 1 && i + 1 < told.length && across(told[i], walk.at()) == home;
+            if (homeAhead) break;
+            walk.go(told[i], false);
+        }
+        return walk;
     }
 
     int show(int c, int s) {

@@ -999,8 +999,7 @@ public final class PromisesTest {
         x.set(2, 1);
         fill(x, 0, 0, 1, 2);
         due(x.judge(0), -1);
-        fill(x, 0, 0, 1, 2, 3);
-        due(x.judge(0), 3);
+        judgeHome(x);
         x.street(0, 12, 1, 1);
         fill(x, 0, 0, 1, 5);
         due(x.judge(0), 2);
@@ -1028,6 +1027,52 @@ public final class PromisesTest {
         due(x.judge(3), 1);
     }
 
+    /** Streets 0, 1, 2 go round; with ONCE 1 home may be passed only as the last that is told. */
+    private static void judgeHome(HomeByAnotherWay x) {
+        int[][] behind = {{3}, {4, 3}, {0}, {-1}, {99}, {MAX, 0, 0}};
+        for (int[] more : behind) {
+            int[] told = {0, 1, 2};
+            fill(x, 0, joined(told, more));
+            due(x.judge(0), 2);
+            due(x.walk(0, 0), x.asks(0, 0, 2) + x.asks(1, 1, 2));
+            due(x.walk(0, 1), 2);
+        }
+        fill(x, 0, 2, 1, 0);
+        due(x.judge(0), -1);
+        due(x.walk(0, 1), 0);
+        fill(x, 0, 2, 0, 1);
+        due(x.judge(0), 1);
+        // If it may be passed, it may be in the middle, and what is none is told for itself.
+        x.set(2, 0);
+        fill(x, 0, 0, 1, 2, 3, 4);
+        due(x.judge(0), -1);
+        due(x.walk(0, 1), 0);
+        fill(x, 0, 0, 1, 2, 99);
+        due(x.judge(0), 3);
+        due(x.walk(0, 1), 0);
+        // Another home: the same streets pass corner 0 as any other.
+        x.set(2, 1);
+        x.set(0, 1);
+        fill(x, 0, 1, 2, 0);
+        due(x.judge(0), -1);
+        fill(x, 0, 1, 2, 0, 3);
+        due(x.judge(0), 2);
+        due(x.walk(0, 1), 0);
+        x.set(0, 0);
+        // A street there and another back.
+        fill(x, 0, 3, 4);
+        due(x.judge(0), -1);
+        fill(x, 0, 3, 4, 0);
+        due(x.judge(0), 1);
+        due(x.walk(0, 1), 3);
+    }
+
+    private static int[] joined(int[] ahead, int[] behind) {
+        int[] all = java.util.Arrays.copyOf(ahead, ahead.length + behind.length);
+        System.arraycopy(behind, 0, all, ahead.length, behind.length);
+        return all;
+    }
+
     private static void walk() {
         promise = "29 walk";
         HomeByAnotherWay x = new HomeByAnotherWay();
@@ -1051,6 +1096,17 @@ public final class PromisesTest {
         due(x.walk(0, 0), 7);
         due(x.walk(0, 1), 1);
         due(x.count(4), 0);
+        // With ONCE 1 a street that comes home, and isn't the last told, is not gone.
+        x.set(0, 0);
+        fill(x, 0, 0, 1, 2, 0);
+        due(x.walk(0, 0), 28);
+        due(x.walk(0, 1), 0);
+        x.set(2, 1);
+        due(x.walk(0, 0), 19);
+        due(x.walk(0, 1), 2);
+        fill(x, 0, 0, 1, 2);
+        due(x.walk(0, 0), 28);
+        due(x.walk(0, 1), 0);
     }
 
     private static void show() {

@@ -54,6 +54,7 @@ public final class RandomRunsTest {
         if (lots.nextInt(3) > 0) feedText();
         while (calls.size() < CALLS && !wrong) {
             if (lots.nextInt(60) == 0) feedText();
+            else if (lots.nextInt(40) == 0) tellWalk();
             else one();
         }
     }
@@ -92,6 +93,32 @@ public final class RandomRunsTest {
             row += ", due is " + want;
         }
         calls.add(row);
+    }
+
+    /** A sheet tells a walk by lot, home passed or not, at times with one number put in or changed. */
+    private void tellWalk() throws Exception {
+        PlainTown.Walk walk = plain.new Walk();
+        int most = lots.nextInt(14);
+        for (int tries = 0; tries < 60 && walk.streets.size() < most; tries++) {
+            int s = someStreet();
+            if (walk.may(s, false)) walk.go(s, false);
+        }
+        List<Integer> told = new ArrayList<>(walk.streets);
+        if (lots.nextInt(2) == 0) told.add(lots.nextInt(told.size() + 1), lots.nextInt(14) - 1);
+        else if (!told.isEmpty() && lots.nextInt(3) == 0) told.set(lots.nextInt(told.size()), someStreet());
+        int sheet = lots.nextInt(4);
+        call("sheet", sheet, lots.nextInt(3), told.size());
+        for (int i = 0; i < told.size(); i++) call("cell", sheet, i, told.get(i));
+        if (lots.nextInt(3) == 0) make("set");
+        call("judge", sheet);
+        call("walk", sheet, 0);
+        call("walk", sheet, 1);
+    }
+
+    private void call(String name, Object... args) throws Exception {
+        for (Method m : face) {
+            if (m.getName().equals(name) && !wrong && calls.size() < CALLS) call(m, args);
+        }
     }
 
     private void feedText() throws Exception {
