@@ -235,6 +235,8 @@ public final class PromisesTest {
         due(write(x, "walkbase;"), -100);
         due(write(x, "walk bas;"), -105);
         due(write(x, "walk basee;"), -105);
+        due(write(x, "walkz 1;"), -100);
+        due(write(x, "walk basez;"), -105);
         due(write(x, "walk 1a;"), -106);
         due(write(x, "walk 12345;"), -105);
         due(write(x, "walk 00001;"), -105);
@@ -269,6 +271,17 @@ public final class PromisesTest {
             if (odd == ';') x = new HomeByAnotherWay();
             if (odd == ';') due(write(x, good + "1;"), 1);
         }
+        // No byte that begins no token is one, wherever a token of any sort is due.
+        for (char odd = 0; odd < 32; odd++) {
+            if (odd == 10) continue;
+            due(write(x, good + odd), at);
+            due(write(x, good + odd + ";"), at);
+            due(write(x, good + "1;" + odd), at - 2);
+            due(write(x, odd + good), -100);
+            x = new HomeByAnotherWay();
+        }
+        x = new HomeByAnotherWay();
+        due(write(x, good + "1;"), 1);
         // Five may be open, of any of the three; what has ended is open no more.
         due(write(x, good + "(((((1)))));"), 2);
         due(write(x, good + "((((((1))))));"), at - 5);
@@ -722,6 +735,8 @@ public final class PromisesTest {
         dueRow(new long[] {x.never(0), x.never(1), x.never(2)}, 0, 22, 488);
         ruled(x, "walk 1;carry 1;may street=0 or street=3;");
         dueRow(new long[] {x.never(0), x.never(1), x.never(2)}, 0, 2, 508);
+        x = town(78, 67, 56, 45, 34, 23, 12, 1);
+        dueRow(new long[] {x.never(0), x.never(1), x.never(2)}, 0, 510, 0);
     }
 
     private static void bars() {
@@ -908,6 +923,9 @@ public final class PromisesTest {
         due(new HomeByAnotherWay().bond(3, 0), 0);
         due(town(1, 12, 23, 34, 45, 56, 67, 78).bond(8, 1), 256);
         due(town(78, 67, 56, 45, 34, 23, 12, 1, 80).bond(0, 1), 511);
+        // From corner 0 on, one street a round alone: the farthest is eight rounds away.
+        x = town(78, 67, 56, 45, 34, 23, 12, 1, 8);
+        dueRow(new long[] {x.bond(0, 0), x.bond(0, 1), x.bond(8, 1)}, 0, 511, 511);
     }
 
     // ---- hours, texts
