@@ -783,15 +783,19 @@ public final class HomeByAnotherWay {
         }
 
         private void denied(int open) {
-            if (token != NOT) {
-                compared(open);
-            } else if (open >= MOST_OPEN) {
-                refuse();
-            } else {
+            int nots = openers(NOT, open);
+            compared(open + nots);
+            for (int i = 0; i < nots; i++) emit(-NOT);
+        }
+
+        /** Passes all that stand here of a token that opens one more each; how many they were. */
+        private int openers(int opener, int open) {
+            int many = 0;
+            while (token == opener && open + many < MOST_OPEN) {
                 advance();
-                denied(open + 1);
-                emit(-NOT);
+                many++;
             }
+            return many;
         }
 
         private void compared(int open) {
@@ -814,12 +818,18 @@ public final class HomeByAnotherWay {
         }
 
         private void product(int open) {
-            single(open);
+            signed(open);
             for (int i = 0; i < TAPE_BYTES && token == '*'; i++) {
                 advance();
-                single(open);
+                signed(open);
                 emit(-'*');
             }
+        }
+
+        private void signed(int open) {
+            int minuses = openers('-', open);
+            single(open + minuses);
+            for (int i = 0; i < minuses; i++) emit(-MINUS_OF);
         }
 
         private void single(int open) {
@@ -829,10 +839,6 @@ public final class HomeByAnotherWay {
             } else if (token >= BASE && token <= LAST_NAME) {
                 emit(-token);
                 advance();
-            } else if (token == '-' && open < MOST_OPEN) {
-                advance();
-                single(open + 1);
-                emit(-MINUS_OF);
             } else if (token == '(' && open < MOST_OPEN) {
                 advance();
                 either(open + 1);

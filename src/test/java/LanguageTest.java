@@ -118,6 +118,10 @@ public final class LanguageTest {
             int indent = lines[i].indexOf(lines[i].trim()), end = i + 1;
             while (!lines[end].startsWith(" ".repeat(indent) + "}")) end++;
             due(end - i < 60, "sixty lines at most: " + lines[i].trim());
+            String name = lines[i].replaceAll("\\(.*", "").replaceAll(".* ", "");
+            for (int k = i + 1; k < end; k++) {
+                due(!Pattern.compile("(?<![.\\w])" + name + "\\(").matcher(lines[k]).find(), name + " calls itself");
+            }
         }
     }
 

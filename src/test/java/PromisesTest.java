@@ -92,8 +92,17 @@ public final class PromisesTest {
     }
 
     private static int write(HomeByAnotherWay x, String text) {
-        for (int i = 0; i < text.length(); i++) x.feed(1, text.charAt(i) & 255, 0, 0, 0, 0);
+        for (int i = 0; i < text.length(); i += 5) {
+            int[] five = new int[5];
+            int n = Math.min(5, text.length() - i);
+            for (int k = 0; k < n; k++) five[k] = text.charAt(i + k);
+            x.feed(n, five[0], five[1], five[2], five[3], five[4]);
+        }
         return x.text();
+    }
+
+    private static int read(String text) {
+        return write(new HomeByAnotherWay(), text);
     }
 
     private static HomeByAnotherWay ruled(HomeByAnotherWay x, String text) {
@@ -224,83 +233,76 @@ public final class PromisesTest {
 
     private static void faults() {
         promise = "5 text, faults";
-        HomeByAnotherWay x = new HomeByAnotherWay();
         String good = "walk 1;carry 1;may ";
         int at = -100 - good.length();
-        due(write(x, "   "), -103);
-        due(write(x, "carry 1;"), -100);
-        due(write(x, "walk 1;may 1;"), -107);
-        due(write(x, "walk ;"), -105);
-        due(write(x, "walk 1 carry"), -107);
-        due(write(x, "walkbase;"), -100);
-        due(write(x, "walk bas;"), -105);
-        due(write(x, "walk basee;"), -105);
-        due(write(x, "walkz 1;"), -100);
-        due(write(x, "walk basez;"), -105);
-        due(write(x, "walk 1a;"), -106);
-        due(write(x, "walk 12345;"), -105);
-        due(write(x, "walk 00001;"), -105);
-        due(write(x, "walk Base;"), -105);
-        due(write(x, "walk 1\t;"), -106);
-        due(write(x, "walk 1 \u00ff;"), -107);
-        due(write(x, "walk 1 > 2;"), -107);
-        due(write(x, "walk walk;"), -105);
-        due(write(x, good + "1; 1"), at - 3);
-        due(write(x, good + "1;;"), at - 2);
-        due(write(x, good + "1; \n"), 1);
-        due(write(x, good + "1 2;"), at - 2);
-        due(write(x, good + "1 base;"), at - 2);
-        due(write(x, good + "(1;"), at - 2);
-        due(write(x, good + "1);"), at - 1);
-        due(write(x, good + "();"), at - 1);
-        due(write(x, good + "1 < 2 < 3;"), at - 6);
-        due(write(x, good + "1 = 2 < 3;"), at - 6);
-        due(write(x, good + "1 + not 2;"), at - 4);
-        due(write(x, good + "1 < not 2;"), at - 4);
-        due(write(x, good + "- not 2;"), at - 2);
-        due(write(x, good + "1 + + 2;"), at - 4);
-        due(write(x, good + "* 2;"), at);
-        due(write(x, good + "1 or ;"), at - 5);
-        due(write(x, good + "1 and or 1;"), at - 6);
-        due(write(x, good + "1 not 1;"), at - 2);
-        due(write(x, good + "1 +"), at - 3);
-        due(write(x, good + "1 or "), at - 5);
+        due(read("   "), -103);
+        due(read("carry 1;"), -100);
+        due(read("walk 1;may 1;"), -107);
+        due(read("walk ;"), -105);
+        due(read("walk 1 carry"), -107);
+        due(read("walkbase;"), -100);
+        due(read("walk bas;"), -105);
+        due(read("walk basee;"), -105);
+        due(read("walkz 1;"), -100);
+        due(read("walk basez;"), -105);
+        due(read("walk 1a;"), -106);
+        due(read("walk 12345;"), -105);
+        due(read("walk 00001;"), -105);
+        due(read("walk Base;"), -105);
+        due(read("walk 1\t;"), -106);
+        due(read("walk 1 \u00ff;"), -107);
+        due(read("walk 1 > 2;"), -107);
+        due(read("walk walk;"), -105);
+        due(read(good + "1; 1"), at - 3);
+        due(read(good + "1;;"), at - 2);
+        due(read(good + "1; \n"), 1);
+        due(read(good + "1 2;"), at - 2);
+        due(read(good + "1 base;"), at - 2);
+        due(read(good + "(1;"), at - 2);
+        due(read(good + "1);"), at - 1);
+        due(read(good + "();"), at - 1);
+        due(read(good + "1 < 2 < 3;"), at - 6);
+        due(read(good + "1 = 2 < 3;"), at - 6);
+        due(read(good + "1 + not 2;"), at - 4);
+        due(read(good + "1 < not 2;"), at - 4);
+        due(read(good + "- not 2;"), at - 2);
+        due(read(good + "1 + + 2;"), at - 4);
+        due(read(good + "* 2;"), at);
+        due(read(good + "1 or ;"), at - 5);
+        due(read(good + "1 and or 1;"), at - 6);
+        due(read(good + "1 not 1;"), at - 2);
+        due(read(good + "1 +"), at - 3);
+        due(read(good + "1 or "), at - 5);
         for (char odd = 0; odd < 256; odd++) {
             boolean stands = odd == ';' || odd == 32 || odd == 10 || odd >= '0' && odd <= '9' || "+-*<=".indexOf(odd) >= 0;
-            due(write(x, good + "1" + odd), stands ? odd == ';' ? 2 : at - 2 : at - 1);
-            if (odd == ';') x = new HomeByAnotherWay();
-            if (odd == ';') due(write(x, good + "1;"), 1);
+            due(read(good + "1" + odd), stands ? odd == ';' ? 1 : at - 2 : at - 1);
         }
         // No byte that begins no token is one, wherever a token of any sort is due.
         for (char odd = 0; odd < 32; odd++) {
             if (odd == 10) continue;
-            due(write(x, good + odd), at);
-            due(write(x, good + odd + ";"), at);
-            due(write(x, good + "1;" + odd), at - 2);
-            due(write(x, odd + good), -100);
-            x = new HomeByAnotherWay();
+            due(read(good + odd), at);
+            due(read(good + odd + ";"), at);
+            due(read(good + "1;" + odd), at - 2);
+            due(read(odd + good), -100);
         }
-        x = new HomeByAnotherWay();
-        due(write(x, good + "1;"), 1);
         // Five may be open, of any of the three; what has ended is open no more.
-        due(write(x, good + "(((((1)))));"), 2);
-        due(write(x, good + "((((((1))))));"), at - 5);
-        due(write(x, good + "-----1;"), 3);
-        due(write(x, good + "------1;"), at - 5);
-        due(write(x, good + "not not not not not 1;"), 4);
-        due(write(x, good + "not not not not not not 1;"), at - 20);
-        due(write(x, good + "not(-(-((1))));"), at - 7);
-        due(write(x, good + "not(-(-1-1-1))<-1 or not -1-(-(-1));"), 5);
-        x = new HomeByAnotherWay();
-        due(write(x, good + "not(-(-(-1)));"), at - 7);
-        due(write(x, good + "((((((;"), at - 5);
-        due(write(x, good + "(((((1-1)))));"), 1);
-        due(write(x, good + "-1--1--1--1--1--1--1;"), 2);
-        due(write(x, good + "not 1 or not 1 and not 1 or not 1 or not 1 or not 1;"), 3);
-        due(write(x, good + "(((((not 1)))));"), at - 5);
-        due(write(x, good + "(((((-1)))));"), at - 5);
-        due(write(x, good + "not 1<(((((1)))));"), at - 10);
-        due(write(x, good + "not 1 or (((((1)))));"), 4);
+        due(read(good + "(((((1)))));"), 1);
+        due(read(good + "((((((1))))));"), at - 5);
+        due(read(good + "-----1;"), 1);
+        due(read(good + "------1;"), at - 5);
+        due(read(good + "not not not not not 1;"), 1);
+        due(read(good + "not not not not not not 1;"), at - 20);
+        due(read(good + "not(-(-((1))));"), at - 7);
+        due(read(good + "not(-(-1-1-1))<-1 or not -1-(-(-1));"), 1);
+        due(read(good + "not(-(-(-1)));"), at - 7);
+        due(read(good + "((((((;"), at - 5);
+        due(read(good + "(((((1-1)))));"), 1);
+        due(read(good + "-1--1--1--1--1--1--1;"), 1);
+        due(read(good + "not 1 or not 1 and not 1 or not 1 or not 1 or not 1;"), 1);
+        due(read(good + "(((((not 1)))));"), at - 5);
+        due(read(good + "(((((-1)))));"), at - 5);
+        due(read(good + "not 1<(((((1)))));"), at - 10);
+        due(read(good + "not 1 or (((((1)))));"), 1);
     }
 
     /** What a law's walk says of street 3, from corner 4 to 7, base 9, more 20, at hour 8; from 1 to 99. */
