@@ -36,7 +36,14 @@ final class Probe {
         rest();
     }
 
-    /** The tape's bytes, the texts, the image. */
+    /** The image, ahead of all else that could change it. */
+    void image() {
+        ask("back", x -> x.back());
+        counts(" behind back");
+        for (int s = 0; s < STREETS; s++) street(s);
+    }
+
+    /** The tape's bytes, the texts, the image again. */
     private void rest() {
         ask("text", x -> x.text());
         for (int t = 0; t < 6; t++) {
